@@ -117,14 +117,13 @@ public final class PretendDesk {
     }
 
     public int house() {
-        String name = now.tape.takeRow(MOST_NAME, true);
-        if (name == null) {
+        if (!now.tape.takeRow(MOST_NAME, true)) {
             return NONE;
         }
         if (now.houses >= MOST_HOUSES) {
             return REFUSED;
         }
-        now.house[now.houses].name = name;
+        now.house[now.houses].name = now.tape.row();
         now.houses++;
         return now.houses - 1;
     }
@@ -134,11 +133,10 @@ public final class PretendDesk {
             now.tape.take();
             return false;
         }
-        String name = now.tape.takeRow(MOST_NAME, true);
-        if (name == null) {
+        if (!now.tape.takeRow(MOST_NAME, true)) {
             return false;
         }
-        now.came[page].name = name;
+        now.came[page].name = now.tape.row();
         return true;
     }
 
@@ -710,8 +708,10 @@ public final class PretendDesk {
             now.tape.take();
             return REFUSED;
         }
-        String word = now.tape.takeRow(MOST_WORD, false);
-        return word == null ? NONE : now.speech.tellWord(word, meaning);
+        if (!now.tape.takeRow(MOST_WORD, false)) {
+            return NONE;
+        }
+        return now.speech.tellWord(now.tape.bytes, now.tape.taken, meaning);
     }
 
     public int pattern(int meanings, int weight) {
@@ -1032,7 +1032,8 @@ public final class PretendDesk {
 
     /** WORDS, PATTERNS and the LETTER, which is kept as it was told: WORDS may come behind it. */
     private static final class Speech {
-        final String[] word = new String[MOST_WORDS];
+        final char[] word = new char[MOST_WORDS * MOST_WORD];
+        final int[] wordLength = new int[MOST_WORDS];
         final int[] wordMeaning = new int[MOST_WORDS];
         final int[] patternMeanings = new int[MOST_PATTERNS];
         final int[] patternWeight = new int[MOST_PATTERNS];
@@ -1041,18 +1042,32 @@ public final class PretendDesk {
         int patterns;
         int length;
 
-        int tellWord(String told, int meaning) {
+        /** The WORD at the head of a row, of no more letters than a WORD has. */
+        int tellWord(char[] row, int count, int meaning) {
             int k = 0;
-            while (k < words && !told.equals(word[k])) {
+            while (k < words && !isWord(k, row, 0, count)) {
                 k++;
             }
-            if (k >= MOST_WORDS) {
+            if (k >= MOST_WORDS || count > MOST_WORD) {
                 return REFUSED;
             }
-            word[k] = told;
+            System.arraycopy(row, 0, word, k * MOST_WORD, count);
+            wordLength[k] = count;
             wordMeaning[k] = meaning;
             words = Math.max(words, k + 1);
             return k;
+        }
+
+        private boolean isWord(int k, char[] row, int from, int to) {
+            if (wordLength[k] != to - from) {
+                return false;
+            }
+            for (int i = from; i < to; i++) {
+                if (row[i] != word[k * MOST_WORD + i - from]) {
+                    return false;
+                }
+            }
+            return true;
         }
 
         int tellPattern(int meanings, int weight) {
@@ -1099,29 +1114,16 @@ public final class PretendDesk {
         /** The bit of the MEANING of the LETTER's word from a place to another one, 0 without. */
         private int meaningOf(int from, int to) {
             for (int k = 0; k < words; k++) {
-                if (isWordAt(word[k], from, to)) {
+                if (isWord(k, letter, from, to)) {
                     return 1 << wordMeaning[k];
                 }
             }
             return 0;
         }
 
-        private boolean isWordAt(String told, int from, int to) {
-            if (told == null || told.length() != to - from) {
-                return false;
-            }
-            for (int i = from; i < to; i++) {
-                if (letter[i] != told.charAt(i - from)) {
-                    return false;
-                }
-            }
-            return true;
-        }
-
         void copy(Speech from) {
-            for (int k = 0; k < word.length; k++) {
-                word[k] = from.word[k];
-            }
+            System.arraycopy(from.word, 0, word, 0, word.length);
+            System.arraycopy(from.wordLength, 0, wordLength, 0, wordLength.length);
             System.arraycopy(from.wordMeaning, 0, wordMeaning, 0, wordMeaning.length);
             System.arraycopy(from.patternMeanings, 0, patternMeanings, 0, patternMeanings.length);
             System.arraycopy(from.patternWeight, 0, patternWeight, 0, patternWeight.length);
@@ -1198,8 +1200,8 @@ public final class PretendDesk {
     /** The tape, the readings of it, and the FAULT of the latest one. */
     private static final class Tape {
         // A word's token is WORD and its number among WORDS; a sign's is the sign itself.
-        private static final String WORDS = "box form pass card pin logo text link "
-                + "land day to read mix put send if go stop ";
+        private static final String WORDS =
+                "box form pass card pin logo text link land day to read mix put send if go stop ";
         private static final int NO_MORE = 0;
         private static final int NUMBER = 1;
         private static final int NO_TOKEN = 2;
@@ -1268,17 +1270,13 @@ public final class PretendDesk {
             }
         }
 
-        /** All bytes as one row of letters (and digits); null: a FAULT. */
-        String takeRow(int most, boolean digitsToo) {
+        /** All bytes as one row of letters (and digits). */
+        boolean takeRow(int most, boolean digitsToo) {
             take();
-            builder.setLength(0);
             for (int i = 0; i < taken; i++) {
                 char sign = bytes[i];
                 if (!isLetter(sign) && !(digitsToo && isDigit(sign))) {
                     stuck(i);
-                }
-                if (i < most) {
-                    builder.append(sign);
                 }
             }
             if (taken == 0) {
@@ -1287,7 +1285,16 @@ public final class PretendDesk {
             if (taken > most) {
                 wrong(2, most);
             }
-            return fault == 0 ? builder.toString() : null;
+            return fault == 0;
+        }
+
+        /** The row that was taken. */
+        String row() {
+            builder.setLength(0);
+            for (int i = 0; i < taken && i < MOST_NAME; i++) {
+                builder.append(bytes[i]);
+            }
+            return builder.toString();
         }
 
         boolean takeLetter() {
