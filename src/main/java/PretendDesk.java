@@ -1332,14 +1332,12 @@ public final class PretendDesk {
                 stuck(place);
                 return depth;
             }
+            int box = NONE;
             if (into.isFull()) {
                 wrong(3, place);
-            }
-            if (depth >= MOST_DEEP) {
+            } else if (depth >= MOST_DEEP) {
                 wrong(4, place);
-            }
-            int box = NONE;
-            if (fault == 0) {
+            } else if (fault == 0) {
                 box = into.add(token - WORD, depth == 0 ? NONE : inside[depth - 1]);
             }
             step();

@@ -236,7 +236,7 @@ public final class FarTest {
         CHECKS.is("none", x.strange(), -1);
         Checks.house(x, "a");
         Checks.own(x, 0, "box(pin;)");
-        Checks.own(x, 0, "box(pin;)");
+        Checks.own(x, 0, "box(pin;pin;pin;)");
         CHECKS.is("of two HOUSES", x.strange(), -1);
         Checks.house(x, "b");
         CHECKS.is("that have PAGES", x.strange(), -1);
@@ -250,5 +250,11 @@ public final class FarTest {
         CHECKS.is("the least", x.strange(), 1);
         Checks.own(x, 1, "box(pin;)");
         CHECKS.is("none at all", x.strange(), 0);
+        x = new PretendDesk();
+        Checks.house(x, "a");
+        Checks.own(x, 0, "box(pin land 0;text day 1;link land 1;)");
+        Checks.house(x, "b");
+        Checks.own(x, 1, "box(pin;)");
+        CHECKS.is("LAND 0 on DAY 0", x.strange(), 0);
     }
 }

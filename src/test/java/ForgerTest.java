@@ -95,6 +95,13 @@ public final class ForgerTest {
         CHECKS.is("w 396", x.pass(0, 0, 99, 396, 0), 0);
         CHECKS.is("w 397", x.pass(0, 0, 99, 397, 0), -1);
         CHECKS.is("w 999", x.pass(0, 0, 99, 999, 0), -1);
+        Checks.page(x, "box(link;link;link;link;link;link;link;link;link;link;)");
+        Checks.name(x, 1, "bank");
+        CHECKS.is("w 999", x.pass(1, 0, 99, 999, 0), 0);
+        CHECKS.is("w 999", x.met(1, 0, 99, 999), -1);
+        Checks.page(x, "box(logo;pass;link land 0;text land 1;)");
+        CHECKS.is("opened by LAND 0", x.pass(2, 31, 2, 0, 0), 0);
+        CHECKS.is("opened by LAND 0", x.pass(2, 31, 1, 0, 0), -1);
         x = new PretendDesk();
         Checks.page(x, "box;");
         due(x, 99, 0, -1, -1, -1);

@@ -1,3 +1,5 @@
+import java.util.List;
+
 /** Promises 52 to 54: count, image, again. */
 public final class ImageTest {
     private static final Checks CHECKS = new Checks("ImageTest");
@@ -66,87 +68,190 @@ public final class ImageTest {
         CHECKS.is("again(0)", x.again(0), true);
     }
 
-    /** Everything that can be told, told in two ways; each answer that shows one of them. */
-    private static void tell(PretendDesk x, int way) {
-        Checks.house(x, "bank" + way);
-        Checks.own(x, 0, way == 0 ? "box(pass;)" : "box(pass;pin;)");
-        Checks.page(x, way == 0 ? "box(pass;pin land 2;)" : "link day 4;");
-        Checks.page(x, "box 1;");
-        Checks.name(x, 0, way == 0 ? "bank0" : "b0nk");
-        x.alike('a', '0', 1 + way);
-        x.stands(0, 7 + way, 0b11 << way);
-        x.stands(1, 0, 0b110);
-        x.worth(0, 3 + way);
-        x.marks(1 + way, 2 + way, 3 + way);
-        x.keep(0, 5, way == 0);
-        x.change(0, 1, 0, 5, 6 + way);
-        Checks.program(x, 0, way == 0 ? "read pin to 1;send 1 to 2;" : "read card to 1;send 1 to 2;stop;");
-        x.relay(2, 5 + way);
-        x.owner(5, way == 0 ? 0 : -1);
-        Checks.word(x, "win", 1 + way);
-        x.pattern(2, 5 + way);
-        Checks.letter(x, way == 0 ? "win. a. b" : "win");
-        x.picture(true, 0, 0b111 << way);
-        x.picture(false, 0, 0b10000 >> way);
-        Checks.page(x, way == 0 ? "box 10;" : "pinn;");
-        x.feed(0x626F7830 + way, 0, 0, 0, 0);
-        x.end(4 + way);
+    /** Tells a desk something in one of three ways: 0, 1, 2. */
+    private interface Teller {
+        void tell(PretendDesk x, int way);
     }
 
-    private static String shown(PretendDesk x) {
-        StringBuilder all = new StringBuilder();
-        int[] shown = {x.fault(0), x.fault(1), x.spell(0, 0), x.boxes(0, 2, 5), x.box(0, 0, 0), x.look(0, 0, 0, 0),
-            x.asks(0, 2, 9), x.signs(0, 0, 9), x.fit(1, 2), x.fit(1, 3), x.pass(0, 9, 99, 0, 0), x.odds(0, 1, 0),
-            x.sketch(0, 16), x.sent(0, 3, 2), x.steps(0, 3), x.taken(0, 3), x.goes(2, false), x.sentence(0),
-            x.holds(0), x.presses(), x.unlike(0, 0)};
-        for (int answer : shown) {
-            all.append(answer).append(' ');
-        }
-        for (int what = 0; what < 40; what++) {
-            all.append(x.count(what)).append(' ');
-        }
-        return all.toString();
+    private interface Asker {
+        int ask(PretendDesk x);
     }
 
-    private static String tapeOf(PretendDesk x) {
-        int length = x.feed(0, 0, 0, 0, 0) - 20;
-        x.end(length);
-        int box = x.page();
-        return length + " " + box + " " + x.fault(0) + " " + x.fault(1);
+    /** Two houses with pages and two pages that came: enough to tell and ask most things of. */
+    private static PretendDesk desk() {
+        PretendDesk x = new PretendDesk();
+        Checks.house(x, "bank");
+        Checks.own(x, 0, "box(pass;)");
+        Checks.house(x, "shop");
+        Checks.own(x, 1, "link(text;text;)");
+        Checks.page(x, "box(pass;)");
+        Checks.page(x, "box(card;text;)");
+        return x;
+    }
+
+    /** One thing that is told: images have it as it was, and what is asked or told later stays out of them. */
+    private static void field(String name, Teller teller, Asker asker) {
+        int[] due = new int[3];
+        for (int way = 0; way < 3; way++) {
+            PretendDesk alone = desk();
+            teller.tell(alone, way);
+            due[way] = asker.ask(alone);
+        }
+        CHECKS.is(name + " has three answers", due[0] != due[1] && due[1] != due[2] && due[0] != due[2], true);
+        PretendDesk x = desk();
+        x.image(2);
+        teller.tell(x, 0);
+        x.image(0);
+        x.again(2);
+        teller.tell(x, 1);
+        x.image(1);
+        x.again(2);
+        teller.tell(x, 2);
+        CHECKS.is(name + " now", asker.ask(x), due[2]);
+        x.again(0);
+        CHECKS.is(name + " of image 0", asker.ask(x), due[0]);
+        x.again(1);
+        CHECKS.is(name + " of image 1", asker.ask(x), due[1]);
+        x.again(0);
+        CHECKS.is(name + " of image 0 again", asker.ask(x), due[0]);
+        x.again(2);
+        teller.tell(x, 1);
+        CHECKS.is(name + " told on image 2", asker.ask(x), due[1]);
+    }
+
+    private static void times(int times, Runnable call) {
+        for (int k = 0; k < times; k++) {
+            call.run();
+        }
     }
 
     private static void all() {
-        PretendDesk x = new PretendDesk();
-        String empty = shown(x);
-        CHECKS.is("image(2)", x.image(2), true);
-        tell(x, 0);
-        String first = shown(x);
-        CHECKS.is("image(0)", x.image(0), true);
-        String firstTape = tapeOf(x);
-        CHECKS.is("again(2)", x.again(2), true);
-        CHECKS.is("it is empty again", shown(x).equals(empty), true);
-        tell(x, 1);
-        String second = shown(x);
-        CHECKS.is("another one", !second.equals(first) && !second.equals(empty), true);
-        CHECKS.is("image(1)", x.image(1), true);
-        String secondTape = tapeOf(x);
-        CHECKS.is("other tapes", !firstTape.equals(secondTape), true);
-        for (int round = 0; round < 2; round++) {
-            CHECKS.is("again(0)", x.again(0), true);
-            CHECKS.is("as image 0 has it", shown(x).equals(first), true);
-            CHECKS.is("its tape", tapeOf(x).equals(firstTape), true);
-            CHECKS.is("again(1)", x.again(1), true);
-            CHECKS.is("as image 1 has it", shown(x).equals(second), true);
-            CHECKS.is("its tape", tapeOf(x).equals(secondTape), true);
+        field("length of the tape", (x, way) -> times(way, () -> x.feed(0, 0, 0, 0, 0)), x -> x.feed(0, 0, 0, 0, 0));
+        field("bytes of the tape", (x, way) -> Checks.tell(x, List.of("box;", "pin;", "text;").get(way)),
+                x -> x.page() + 10 * x.box(2, 0, 0));
+        field("FAULT", (x, way) -> Checks.page(x, List.of("box;", "?", "box 10;").get(way)), x -> x.fault(0));
+        field("its place", (x, way) -> Checks.letter(x, "   ".substring(way) + "?"), x -> x.fault(1));
+        houses();
+        pages();
+        cases();
+        programs();
+        letters();
+    }
+
+    private static void houses() {
+        List<String> names = List.of("bank", "bnak", "banks");
+        field("HOUSES", (x, way) -> times(way, () -> Checks.house(x, "a")), x -> x.count(0));
+        field("NAME of a HOUSE", (x, way) -> Checks.house(x, names.get(way)), x -> {
+            Checks.name(x, 0, "bank");
+            return x.spell(0, 2);
+        });
+        field("PAGES of a HOUSE", (x, way) -> {
+            Checks.house(x, "a");
+            times(way, () -> Checks.own(x, 2, "box;"));
+        }, x -> x.count(22));
+        List<String> own = List.of("box(card;text;)", "box(card;text 1;)", "box(card;text;link;)");
+        field("a PAGE of a HOUSE", (x, way) -> Checks.own(x, 0, own.get(way)), x -> x.look(1, 0, 0, 0));
+        field("PICTURE of a HOUSE", (x, way) -> x.picture(false, 0, 0b111 >> way), x -> x.unlike(0, 0));
+        field("ALIKE", (x, way) -> x.alike('m', 'n', 1 + way), x -> {
+            Checks.name(x, 0, "bamk");
+            return x.spell(0, 0);
+        });
+        field("WORTH", (x, way) -> x.worth(0, way), x -> x.count(30));
+        field("MARK a", (x, way) -> x.marks(way, 0, 0), x -> x.count(3));
+        field("MARK b", (x, way) -> x.marks(0, way, 0), x -> x.count(4));
+        field("MARK c", (x, way) -> x.marks(0, 0, way), x -> x.count(5));
+    }
+
+    private static void pages() {
+        List<String> names = List.of("bank", "bnak", "banks");
+        List<String> texts = List.of("form(pin land 3;)", "form(pin land 2;)", "form(pin day 4;)");
+        field("PAGES", (x, way) -> times(way, () -> Checks.page(x, "box;")), x -> x.count(1));
+        for (int what = 0; what < 5; what++) {
+            int asked = what;
+            List<String> boxes = List.of("box(pin 1 land 1 day 1;)", "box(text(box 2 land 2 day 2;))", "box 4(card;card(logo;))");
+            List<Integer> box = List.of(1, 2, 3);
+            field("BOX " + what, (x, way) -> Checks.page(x, boxes.get(way)), x -> {
+                int k = x.boxes(2, 1, 99) == 2 && x.box(2, 1, 0) == 4 ? 0 : x.box(2, 1, 0) == 6 ? 1 : 2;
+                return 10 * x.box(2, box.get(k), asked) + k;
+            });
         }
-        CHECKS.is("again(2)", x.again(2), true);
-        CHECKS.is("as image 2 has it", shown(x).equals(empty), true);
-        tell(x, 1);
-        CHECKS.is("told on an image", shown(x).equals(second), true);
-        CHECKS.is("the image is not told on", x.again(2), true);
-        CHECKS.is("the image is not told on", shown(x).equals(empty), true);
-        tell(x, 0);
-        CHECKS.is("nothing is left of the others", shown(x).equals(first), true);
+        field("a text", (x, way) -> Checks.page(x, texts.get(way)), x -> x.boxes(2, 3, 0) + 2 * x.boxes(2, 2, 4) + 4 * x.boxes(2, 1, 4));
+        field("NAME", (x, way) -> Checks.name(x, 0, names.get(way)), x -> x.spell(0, 0));
+        field("since when", (x, way) -> x.stands(0, 5 * way, 0), x -> {
+            int day = 0;
+            while (day < 99 && (x.signs(0, 0, day) & 4) != 0) {
+                day++;
+            }
+            return day;
+        });
+        field("PIECES", (x, way) -> x.stands(0, 0, 0b111 >> way), x -> x.odds(1, 0, 1));
+        field("PICTURE", (x, way) -> x.picture(true, 0, 0b11100000000 >> way & 0b11100000000), x -> {
+            x.picture(false, 0, 0b11100000000);
+            return x.unlike(0, 0);
+        });
+        field("CHANGES", (x, way) -> times(way, () -> x.change(0, 2, 0, 1, 1)), x -> x.count(10));
+        field("a CHANGE", (x, way) -> x.change(0, 0, 1, 0, 5 + way), x -> x.pass(0, 0, 99, 0, 0));
+    }
+
+    private static void cases() {
+        field("CASES", (x, way) -> times(way, () -> x.keep(0, 0, true)), x -> x.count(2));
+        field("PAGE of a CASE", (x, way) -> {
+            Checks.page(x, "box(pass;link;)");
+            x.keep(way, 0, true);
+        }, x -> x.fit(0, 0));
+        field("DAY of a CASE", (x, way) -> x.keep(0, 10 * way, true), x -> x.fit(0, 2));
+        field("what a CASE is", (x, way) -> {
+            x.keep(0, 0, way != 0);
+            times(way / 2, () -> x.keep(0, 0, false));
+        }, x -> x.fit(0, 1) + 1000 * x.fit(0, 3));
+    }
+
+    private static void programs() {
+        List<String> programs = List.of("read box to 0;send 0 to 1;", "read pin to 0;send 0 to 1;", "read card to 3;send 3 to 1;");
+        field("LINES", (x, way) -> Checks.program(x, 0, "put 1 to 1;put 1 to 1;".substring(11 * way)), x -> x.steps(0, 0));
+        field("a PROGRAM", (x, way) -> Checks.program(x, 0, programs.get(way)), x -> x.sent(0, 3, 1));
+        field("RELAYS", (x, way) -> x.relay(0, 1 + way), x -> x.goes(0, false));
+        field("OWNERS", (x, way) -> x.owner(1, way - 1), x -> {
+            Checks.page(x, "link(text;text;)");
+            Checks.program(x, 0, "read box to 0;send 0 to 1;");
+            Checks.program(x, 2, "read form to 0;send 0 to 1;");
+            return x.taken(0, 3) + x.taken(2, 3);
+        });
+    }
+
+    private static void letters() {
+        field("WORDS", (x, way) -> times(way, () -> Checks.word(x, "w" + (x.count(6) == 0 ? "" : "w"), 1)), x -> x.count(6));
+        field("MEANING", (x, way) -> Checks.word(x, "win", way), x -> {
+            Checks.letter(x, "win");
+            return x.sentence(0);
+        });
+        field("a WORD", (x, way) -> Checks.word(x, List.of("win", "now", "key").get(way), 0), x -> {
+            Checks.letter(x, "win.now.key");
+            return x.sentence(0) + 2 * x.sentence(1) + 4 * x.sentence(2);
+        });
+        field("length of a WORD", (x, way) -> Checks.word(x, "win".substring(way), 0), x -> {
+            Checks.letter(x, "win.in.n");
+            return x.sentence(0) + 2 * x.sentence(1) + 4 * x.sentence(2);
+        });
+        field("PATTERNS", (x, way) -> times(way, () -> x.pattern(1, 1)), x -> x.count(7));
+        field("MEANINGS of a PATTERN", (x, way) -> x.pattern(1 << way, 1), x -> {
+            Checks.word(x, "a", 0);
+            Checks.word(x, "b", 1);
+            Checks.word(x, "c", 2);
+            Checks.letter(x, "a.b.c");
+            return x.holds(0);
+        });
+        field("WEIGHT", (x, way) -> x.pattern(1, way - 1), x -> {
+            Checks.word(x, "a", 0);
+            Checks.letter(x, "a");
+            return x.presses();
+        });
+        field("SENTENCES", (x, way) -> Checks.letter(x, "a.a.".substring(2 * way)), x -> x.count(8));
+        field("the LETTER", (x, way) -> Checks.letter(x, List.of("a", "b", "c").get(way)), x -> {
+            Checks.word(x, "a", 0);
+            Checks.word(x, "b", 1);
+            return x.sentence(0);
+        });
     }
 
     private static void several() {

@@ -5,6 +5,7 @@ public final class MarksTest {
     public static void main(String[] args) {
         keep();
         fit();
+        edges();
         noSuchMarks();
         asItIsNow();
         CHECKS.end();
@@ -71,6 +72,33 @@ public final class MarksTest {
         CHECKS.is("h -1", x.fit(-1, 0), -1);
         CHECKS.is("what 5", x.fit(0, 5), -1);
         CHECKS.is("what -1", x.fit(0, -1), -1);
+    }
+
+    private static void edges() {
+        PretendDesk x = new PretendDesk();
+        Checks.house(x, "bank");
+        Checks.own(x, 0, "box(pass;card;pin land 0;)");
+        Checks.page(x, "box(pass;card;pin land 0;)");
+        Checks.page(x, "box(pass;card;pin land 0;link;)");
+        x.worth(4, 89);
+        x.worth(7, 1);
+        x.keep(0, 99, false);
+        x.keep(1, 99, true);
+        due(x, 0, 2, 200, 99, 0, 0);
+        x.worth(7, 0);
+        due(x, 0, 0, 0, 0, 1, 0);
+        Checks.name(x, 0, "bank");
+        due(x, 0, 2, 0, 99, 0, 0);
+        CHECKS.is("seen by LAND 0", x.fit(0, 0) + x.look(1, 0, 1, 0) + x.look(1, 0, 0, 0), 6);
+        x = new PretendDesk();
+        Checks.house(x, "bank");
+        Checks.own(x, 0, "box;");
+        Checks.page(x, "box(pin land 1;)");
+        Checks.page(x, "box(pin land 0;)");
+        x.keep(0, 0, true);
+        due(x, 0, 0, 0, 0, 0, 0);
+        x.keep(1, 0, true);
+        due(x, 0, 2, 0, 0, 0, 0);
     }
 
     private static void noSuchMarks() {

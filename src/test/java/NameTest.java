@@ -98,6 +98,10 @@ public final class NameTest {
         }
         CHECKS.is("all stays", x.spell(0, 0), 11);
         CHECKS.is("a letter and a digit", x.alike('a', '9', 2), true);
+        x.alike('z', 'y', 1);
+        Checks.name(x, 0, "a0");
+        Checks.house(x, "ay");
+        CHECKS.is("z is no 0", x.spell(0, 1), 6);
     }
 
     private static int price(PretendDesk x, String its, String owners) {

@@ -25,6 +25,9 @@ public final class PictureTest {
         CHECKS.is("page 1", x.picture(true, 1, 0), false);
         CHECKS.is("page -1", x.picture(true, -1, 0), false);
         CHECKS.is("both are full", x.unlike(0, 0), 0);
+        CHECKS.is("empty", x.picture(true, 0, 0), true);
+        CHECKS.is("empty", x.unlike(0, 0), 25);
+        CHECKS.is("full again", x.picture(true, 0, FULL), true);
         CHECKS.is("a bit too many", x.picture(true, 0, FULL + 1), false);
         CHECKS.is("bits below 0", x.picture(true, 0, -1), false);
         CHECKS.is("it stays", x.unlike(0, 0), 0);

@@ -155,6 +155,13 @@ public final class ProgramTest {
         Checks.program(x, 0, "if 4<1 go 2;stop;mix 4 to 4;send 4 to 0;");
         CHECKS.is("0 at first", x.steps(0, 0), 3);
         CHECKS.is("no TRACES at first", x.sent(0, 0, 0), 0);
+        Checks.program(x, 0, "if 0<1 go 2;stop;if 5<1 go 4;stop;send 0 to 0;send 5 to 5;read pin to 0;read card to 5;"
+                + "send 0 to 9;send 5 to 9;");
+        for (int time = 0; time < 2; time++) {
+            CHECKS.is("all is new each time", x.steps(0, 3), 8);
+            CHECKS.is("all is new each time", x.sent(0, 3, 0) + x.sent(0, 3, 5), 0);
+            CHECKS.is("all is new each time", x.sent(0, 3, 9), 24);
+        }
     }
 
     private static void steps() {
@@ -286,6 +293,19 @@ public final class ProgramTest {
         x.owner(5, 0);
         x.owner(6, 1);
         CHECKS.is("of several the least", x.taken(1, 0), 8);
+        x = new PretendDesk();
+        Checks.house(x, "a");
+        Checks.house(x, "b");
+        Checks.own(x, 0, "form(pass;card;pin;)");
+        Checks.own(x, 1, "form(pass;)");
+        Checks.page(x, "form(pass;card day 1;pin day 1;)");
+        Checks.page(x, "form(pass;card land 1;pin land 1;)");
+        x.owner(0, 0);
+        x.owner(1, 1);
+        for (int page = 0; page < 2; page++) {
+            Checks.program(x, page, "read pass to 0;send 0 to 0;read card to 1;send 1 to 1;");
+            CHECKS.is("by LAND 0 on DAY 0 it is like house 1", x.taken(page, 0), 4);
+        }
     }
 
     private static void ever() {
@@ -301,5 +321,13 @@ public final class ProgramTest {
         CHECKS.is("ever", x.taken(0, -1), 16);
         Checks.program(x, 0, "read box to 0;read pin to 1;if 0<50 go 5;send 0 to 1;stop;send 1 to 1;");
         CHECKS.is("ever, together", x.taken(0, -1), 17);
+        // ANSWER of box is 7 with 0, 100 and so on alone; 6 with 99, 199 and so on alone.
+        Checks.program(x, 0, "read box to 0;if 0<7 go 3;if 0<8 go 4;stop;send 0 to 0;");
+        CHECKS.is("with 0", x.taken(0, 0), 1);
+        CHECKS.is("with 1", x.taken(0, 1), 0);
+        CHECKS.is("ever", x.taken(0, -1), 1);
+        Checks.program(x, 0, "read box to 0;if 0<6 go 3;if 0<7 go 4;stop;send 0 to 0;");
+        CHECKS.is("with 99", x.taken(0, 99), 1);
+        CHECKS.is("ever", x.taken(0, -1), 1);
     }
 }

@@ -40,7 +40,9 @@ public final class RoomTest {
         CHECKS.is("the greatest", x.hides(2, 0), 6);
         Checks.page(x, "box(pass land 0;card land 1;)");
         CHECKS.is("the first two", x.hides(3, 0), 3);
-        CHECKS.is("page 4", x.hides(4, 0), -1);
+        Checks.page(x, "box(pass land 0;pass land 1;pass land 2;pass land 3;)");
+        CHECKS.is("each has the same", x.hides(4, 0), 0);
+        CHECKS.is("page 5", x.hides(5, 0), -1);
         CHECKS.is("page -1", x.hides(-1, 0), -1);
         CHECKS.is("day 100", x.hides(0, 100), -1);
         CHECKS.is("day -1", x.hides(0, -1), -1);
