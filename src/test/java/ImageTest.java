@@ -151,6 +151,10 @@ public final class ImageTest {
         }, x -> x.count(22));
         List<String> own = List.of("box(card;text;)", "box(card;text 1;)", "box(card;text;link;)");
         field("a PAGE of a HOUSE", (x, way) -> Checks.own(x, 0, own.get(way)), x -> x.look(1, 0, 0, 0));
+        field("the first PAGE of a HOUSE", (x, way) -> {
+            Checks.house(x, "a");
+            Checks.own(x, 2, own.get(way));
+        }, x -> x.look(1, 2, 0, 0));
         field("PICTURE of a HOUSE", (x, way) -> x.picture(false, 0, 0b111 >> way), x -> x.unlike(0, 0));
         field("ALIKE", (x, way) -> x.alike('m', 'n', 1 + way), x -> {
             Checks.name(x, 0, "bamk");

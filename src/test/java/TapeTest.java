@@ -7,6 +7,8 @@ public final class TapeTest {
         feed();
         end();
         fault();
+        cut();
+        full();
         CHECKS.end();
     }
 
@@ -88,6 +90,68 @@ public final class TapeTest {
         CHECKS.is("it stays", x.feed(0, 0, 0, 0, 0), 23);
         x.end(3);
         CHECKS.is("house()", x.house(), 0);
+    }
+
+    /** What was cut off is no more read, though a token would go on with it. */
+    private static void cut() {
+        PretendDesk x = new PretendDesk();
+        String[] texts = {"boxx", "box ", "box(", "box;"};
+        for (String text : texts) {
+            Checks.tell(x, text);
+            x.end(3);
+            CHECKS.is("box, then " + text, x.page(), -1);
+            CHECKS.fault("box, then " + text, x, 1, 3);
+        }
+        Checks.tell(x, "box 12;");
+        x.end(5);
+        CHECKS.is("box 1", x.page(), -1);
+        CHECKS.fault("box 1", x, 1, 5);
+        Checks.tell(x, "a.b");
+        x.end(1);
+        CHECKS.is("a letter of one word", x.letter(), 1);
+        Checks.tell(x, "stop;stop;");
+        x.end(5);
+        CHECKS.is("a page", Checks.page(x, "box;"), 0);
+        x.end(0);
+        Checks.tell(x, "stop;stop;");
+        x.end(5);
+        CHECKS.is("one line", x.program(0), 1);
+    }
+
+    /** 500 bytes of one sort, up to the tape's last one. */
+    private static void full() {
+        for (char sign : "b7 ;(.<\n\0\u00ff".toCharArray()) {
+            PretendDesk x = new PretendDesk();
+            Checks.page(x, "box;");
+            boolean blank = sign == ' ' || sign == '\n';
+            fill(x, sign);
+            CHECKS.is("page of " + (int) sign, x.page(), -1);
+            CHECKS.fault("page of " + (int) sign, x, 1, blank ? 500 : 0);
+            fill(x, sign);
+            CHECKS.is("program of " + (int) sign, x.program(0), blank ? 0 : -1);
+            CHECKS.fault("program of " + (int) sign, x, blank ? 0 : 1, blank ? -1 : 0);
+            fill(x, sign);
+            CHECKS.is("house of " + (int) sign, x.house(), -1);
+            CHECKS.fault("house of " + (int) sign, x, sign == 'b' || sign == '7' ? 2 : 1, sign == 'b' || sign == '7' ? 12 : 0);
+            fill(x, sign);
+            CHECKS.is("word of " + (int) sign, x.word(0), -1);
+            CHECKS.fault("word of " + (int) sign, x, sign == 'b' ? 2 : 1, sign == 'b' ? 8 : 0);
+            fill(x, sign);
+            CHECKS.is("letter of " + (int) sign, x.letter(), sign == 'b' ? 1 : blank || sign == '.' ? 0 : -1);
+        }
+        PretendDesk x = new PretendDesk();
+        fill(x, ' ');
+        x.end(480);
+        x.feed(0x626F7820, 0x20202020, 0x20202020, 0x20202020, 0x2020203B);
+        CHECKS.is("its last byte counts", x.page(), 0);
+    }
+
+    private static void fill(PretendDesk x, char sign) {
+        x.end(0);
+        int four = sign << 24 | sign << 16 | sign << 8 | sign;
+        for (int k = 0; k < 25; k++) {
+            x.feed(four, four, four, four, four);
+        }
     }
 
     private static void fault() {
