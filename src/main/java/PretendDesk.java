@@ -117,11 +117,12 @@ public final class PretendDesk {
     }
 
     public int house() {
+        if (now.houses >= MOST_HOUSES) {
+            now.tape.take();
+            return REFUSED;
+        }
         if (!now.tape.takeRow(MOST_NAME, true)) {
             return NONE;
-        }
-        if (now.houses >= MOST_HOUSES) {
-            return REFUSED;
         }
         now.house[now.houses].name = now.tape.row();
         now.houses++;

@@ -194,11 +194,11 @@ final class Model implements Cloneable {
 
     int house() {
         String text = taken();
-        if (!isRow(text, "[a-z0-9]", 12)) {
-            return NONE;
-        }
         if (houses.size() == 5) {
             return -2;
+        }
+        if (!isRow(text, "[a-z0-9]", 12)) {
+            return NONE;
         }
         House h = new House();
         h.name = text;

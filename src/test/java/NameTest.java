@@ -37,9 +37,19 @@ public final class NameTest {
         CHECKS.fault("there are 5", x, 0, -1);
         CHECKS.is("the tape is empty", x.end(1), -1);
         CHECKS.is("there are 5", x.count(0), 5);
-        // The text is read (promise 4 does not say that it is not): its FAULT goes before.
-        CHECKS.is("there are 5, and a FAULT", Checks.house(x, "b?"), -1);
-        CHECKS.fault("there are 5, and a FAULT", x, 1, 1);
+        // Whatever the text: there are 5, and no FAULT.
+        String[] texts = {"", "b?", "abcdefghijklm", "abcdefghijklm-", " ", "b"};
+        for (String text : texts) {
+            Checks.page(x, "?");
+            CHECKS.is("there are 5 '" + text + "'", Checks.house(x, text), -2);
+            CHECKS.fault("there are 5 '" + text + "'", x, 0, -1);
+            CHECKS.is("the tape is empty '" + text + "'", x.end(1), -1);
+        }
+        CHECKS.is("there are 5", x.count(0), 5);
+        Checks.page(x, "box;");
+        Checks.name(x, 0, "a");
+        CHECKS.is("the NAMES stay", x.spell(0, 4), 0);
+        CHECKS.is("the NAMES stay", x.spell(0, 3), 6);
         int[] edges = {'a' - 1, 'z' + 1, '0' - 1, '9' + 1, 10, 32, 0, 255};
         x = new PretendDesk();
         for (int edge : edges) {
