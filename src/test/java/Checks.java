@@ -44,6 +44,16 @@ final class Checks {
         return desk;
     }
 
+    /** The same for the plain Model. */
+    static void tell(Model model, String text) {
+        model.end(0);
+        for (int from = 0; from < text.length(); from += 20) {
+            model.feed(four(text, from), four(text, from + 4), four(text, from + 8),
+                    four(text, from + 12), four(text, from + 16));
+        }
+        model.end(text.length());
+    }
+
     static int four(String text, int from) {
         int number = 0;
         for (int i = from; i < from + 4; i++) {

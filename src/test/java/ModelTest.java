@@ -14,6 +14,7 @@ public final class ModelTest {
     private final List<String> pageTexts = new ArrayList<>();
     private final List<String> history = new ArrayList<>();
     private boolean broken;
+    private int calls;
 
     private ModelTest(long seed, int size) {
         random = new Random(seed);
@@ -21,7 +22,7 @@ public final class ModelTest {
     }
 
     public static void main(String[] args) {
-        int runs = args.length > 0 ? Integer.parseInt(args[0]) : 150;
+        int runs = args.length > 0 ? Integer.parseInt(args[0]) : 200;
         long first = args.length > 1 ? Long.parseLong(args[1]) : 1;
         for (long seed = first; seed < first + runs; seed++) {
             int size = seed % 10 == 0 ? 14 : 3 + (int) (seed % 5);
@@ -30,8 +31,9 @@ public final class ModelTest {
         CHECKS.end();
     }
 
+    /** An object is used for 512 calls: 47 are asked in the end, and no round has more than 60. */
     private void run(long seed) {
-        for (int round = 0; round < 130 && !broken; round++) {
+        while (calls < 400 && !broken) {
             call(seed, random.nextInt(30) < 16 ? random.nextInt(20) : 20 + random.nextInt(34));
         }
         for (int what = -2; what < 45; what++) {
@@ -40,6 +42,7 @@ public final class ModelTest {
     }
 
     private void due(String call, long got, long want) {
+        calls++;
         if (got != want && !broken) {
             broken = true;
             System.out.println("  " + String.join("\n  ", history));
@@ -179,12 +182,8 @@ public final class ModelTest {
     private void tell(String text) {
         history.add("tape: " + text.replace("\n", "\\n"));
         Checks.tell(desk, text);
-        model.end(0);
-        for (int from = 0; from < text.length(); from += 20) {
-            model.feed(Checks.four(text, from), Checks.four(text, from + 4), Checks.four(text, from + 8),
-                    Checks.four(text, from + 12), Checks.four(text, from + 16));
-        }
-        model.end(text.length());
+        Checks.tell(model, text);
+        calls += 3 + text.length() / 20;
     }
 
     // ---- the calls
