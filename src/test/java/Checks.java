@@ -1,3 +1,5 @@
+import java.util.function.Consumer;
+
 /** Counts answers that are not as due, and puts texts on a desk's tape. */
 final class Checks {
     private final String test;
@@ -52,6 +54,20 @@ final class Checks {
                     four(text, from + 12), four(text, from + 16));
         }
         model.end(text.length());
+    }
+
+    /** Every start of a text, and the text with each byte left out, another one, or one more before it. */
+    static void others(String text, String signs, Consumer<String> asked) {
+        for (int at = 0; at <= text.length(); at++) {
+            String start = text.substring(0, at);
+            String rest = text.substring(Math.min(at + 1, text.length()));
+            asked.accept(start);
+            asked.accept(start + rest);
+            for (char sign : signs.toCharArray()) {
+                asked.accept(start + sign + text.substring(at));
+                asked.accept(start + sign + rest);
+            }
+        }
     }
 
     static int four(String text, int from) {

@@ -142,6 +142,11 @@ final class Edges {
         compare(call, new Probe(one), new Probe(due), true);
     }
 
+    /** The same of what they are now, whatever images they have. */
+    void sameNow(String call, Maker one, Maker due) {
+        compare(call, new Probe(one, 0), new Probe(due, 0), true);
+    }
+
     private void stays(String call, Maker maker, Ask ask, boolean tapeToo) {
         Probe got = new Probe(() -> {
             PretendDesk x = maker.make();

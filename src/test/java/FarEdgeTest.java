@@ -311,7 +311,8 @@ public final class FarEdgeTest {
         e.refused("strange() with PAGES that came alone", -1, Desks.came("box;", "box;"), PretendDesk::strange);
         e.refused("strange() with one", -1, () -> houses("box;"), PretendDesk::strange);
         e.refused("strange() with one that has two PAGES", -1, () -> houses("box;&box;"), PretendDesk::strange);
-        e.refused("strange() with five, one with PAGES", -1, () -> houses("", "", "", "", "box;&box;"), PretendDesk::strange);
+        e.refused("strange() with five, the last one with PAGES", -1, () -> houses("", "", "", "", "box;&box;"), PretendDesk::strange);
+        e.refused("strange() with five, the first one with PAGES", -1, () -> houses("box;&box;", "", "", "", ""), PretendDesk::strange);
         e.refused("strange() with five without PAGES", -1, () -> houses("", "", "", "", ""), PretendDesk::strange);
         e.is("strange() with two that have PAGES", houses("", "box;", "", "box 1;", "").strange(), 1);
         e.is("strange() with the last two", houses("", "", "", "box;", "box 1;").strange(), 1);

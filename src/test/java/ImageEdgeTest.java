@@ -1,3 +1,5 @@
+import java.util.function.Consumer;
+
 /** The edges of promises 52 to 54: count, image, again. */
 public final class ImageEdgeTest {
     public static void main(String[] args) {
@@ -17,11 +19,9 @@ public final class ImageEdgeTest {
         e.of("Promise 54", "false if there is none such.", ImageEdgeTest::againOfNone);
     }
 
-    /** Tells something of each sort on RICH, each but for the images. */
+    /** Tells something of each sort on RICH. */
     private static void tellAll(PretendDesk x) {
-        Checks.house(x, "shop");
-        Checks.own(x, 3, "form(card;)");
-        Checks.own(x, 1, "box;");
+        tellHouses(x, "shop", "form(card;)", "box;");
         Checks.page(x, "text(link 3 land 2 day 5;)");
         Checks.name(x, 0, "bank");
         Checks.name(x, 2, "z");
@@ -29,23 +29,60 @@ public final class ImageEdgeTest {
         x.stands(0, 77, 0b1110000);
         x.stands(3, 1, 0b111);
         x.worth(2, 1);
-        x.marks(1, 2, 3);
-        x.keep(5, 1, true);
+        x.marks(1, 1, 3);
+        x.keep(2, 60, true);
         x.change(0, 2, 0, 9, 1);
-        x.change(4, 0, 0, 0, 1);
-        x.relay(2, 9);
-        x.relay(6, -1);
-        x.owner(3, 1);
-        Checks.program(x, 0, "go 0;");
-        Checks.program(x, 2, "read box to 0;send 0 to 0;");
-        Checks.word(x, "win", 7);
-        Checks.word(x, "gift", 6);
-        x.pattern(0b1000000, 99);
+        x.change(2, 0, 1, 0, 4);
+        tellPrograms(x, 9, "go 0;", "read box to 0;send 0 to 0;");
+        tellWords(x, "gift", 0b1000000, 99);
         x.picture(true, 0, 1);
         x.picture(false, 0, 2);
-        Checks.letter(x, "gift. win gift");
         Checks.word(x, "?", 0);
         Checks.tell(x, "gift.gift.");
+    }
+
+    /** Tells as much, and of all another thing. */
+    private static void tellOther(PretendDesk x) {
+        tellHouses(x, "other", "card(pin;pass;)", "link(text;)");
+        Checks.page(x, "card 1(logo 2 land 1 day 6;text;)");
+        Checks.name(x, 0, "sh0p");
+        Checks.name(x, 2, "none");
+        x.alike('m', 'n', 3);
+        x.stands(0, 20, 0b11);
+        x.stands(3, 9, 0b11100);
+        x.worth(2, 9);
+        x.marks(9, 8, 7);
+        x.keep(2, 50, false);
+        x.change(0, 1, 0, 1, 2);
+        x.change(2, 2, 0, 99, 5);
+        tellPrograms(x, 1, "put 5 to 5;stop;", "read link to 1;send 1 to 4;");
+        tellWords(x, "prize", 0b10001000, -9);
+        x.picture(true, 0, 1 << 12 | 1 << 6);
+        x.picture(false, 0, 0b1110);
+        Checks.letter(x, "!");
+        Checks.tell(x, "key. win. win");
+    }
+
+    private static void tellHouses(PretendDesk x, String name, String own, String second) {
+        Checks.house(x, name);
+        Checks.own(x, 3, own);
+        Checks.own(x, 1, second);
+    }
+
+    private static void tellPrograms(PretendDesk x, int address, String program, String second) {
+        x.relay(2, address);
+        x.relay(6, address == 1 ? -1 : address);
+        x.owner(3, address == 1 ? 2 : 1);
+        x.owner(address, 1);
+        Checks.program(x, 0, program);
+        Checks.program(x, 2, second);
+    }
+
+    private static void tellWords(PretendDesk x, String word, int meanings, int weight) {
+        Checks.word(x, "win", 7);
+        Checks.word(x, word, 6 - word.length() % 2 * 3);
+        x.pattern(meanings, weight);
+        Checks.letter(x, word + ". win " + word + ". now");
     }
 
     // ---- count
@@ -237,7 +274,59 @@ public final class ImageEdgeTest {
         e.empty("the tape", x);
     }
 
+    private static PretendDesk told(Consumer<PretendDesk> tell) {
+        PretendDesk x = Desks.TOLD.make();
+        tell.accept(x);
+        return x;
+    }
+
+    /** From one image two ways are told, and each kept as an image: each is as if there were no other. */
+    private static void twoWays(Edges e) {
+        for (int k = 0; k < 3; k++) {
+            int one = k;
+            int other = (k + 1) % 3;
+            int before = (k + 2) % 3;
+            Edges.Maker both = () -> {
+                PretendDesk x = Desks.TOLD.make();
+                x.image(before);
+                tellAll(x);
+                x.image(one);
+                x.again(before);
+                tellOther(x);
+                x.image(other);
+                x.again(before);
+                return x;
+            };
+            e.sameNow("again(" + one + ") of two ways", () -> {
+                PretendDesk x = both.make();
+                x.again(one);
+                return x;
+            }, () -> told(ImageEdgeTest::tellAll));
+            e.sameNow("again(" + other + ") of two ways", () -> {
+                PretendDesk x = both.make();
+                x.again(other);
+                return x;
+            }, () -> told(ImageEdgeTest::tellOther));
+            e.sameNow("again(" + before + "), before both", both, Desks.TOLD);
+            // The first CASE of all, the one way and the other.
+            PretendDesk x = Desks.bank("box;", "box;").make();
+            x.image(before);
+            x.keep(0, 9, true);
+            x.image(one);
+            x.again(before);
+            x.keep(0, 7, false);
+            x.again(one);
+            e.is("c for one that PRETENDS", x.fit(0, 2), 9);
+            x.again(before);
+            x.keep(0, 5, true);
+            e.is("c for another one", x.fit(0, 2), 5);
+            x.again(one);
+            e.is("c for the first one again", x.fit(0, 2), 9);
+        }
+    }
+
     private static void otherImagesStay(Edges e) {
+        twoWays(e);
         for (int k = 0; k < 3; k++) {
             PretendDesk x = new PretendDesk();
             for (int image = 0; image < 3; image++) {

@@ -49,7 +49,7 @@ public final class MarksEdgeTest {
         x = Desks.bank("box;", "box(pass land 0;pass day 9;)", "box(pin land 1;)").make();
         x.keep(1, 99, true);
         due(e, x, 0, 0, 0, 99, 0, 0);
-        x = Desks.bank("box;", "box;").make();
+        x = Desks.bank("box(pin land 1;card land 2;text land 3;link day 1;)", "box;").make();
         x.keep(0, 0, true);
         due(e, x, 0, 0, 0, 0, 0, 0);
         x.keep(0, 0, false);

@@ -306,18 +306,7 @@ public final class PageEdgeTest {
             " form\n(\n)", wide(13, ""), deep(5, "pin 0(pin;)")};
         String signs = "\0\t\n\r !'()*+,-./0123456789:;<=>?@AZ[`abdfgklmnotxyz{\177\200\240\377";
         for (String text : texts) {
-            for (int at = 0; at <= text.length(); at++) {
-                asModel(e, text.substring(0, at));
-                for (char sign : signs.toCharArray()) {
-                    asModel(e, text.substring(0, at) + sign + text.substring(at));
-                    if (at < text.length()) {
-                        asModel(e, text.substring(0, at) + sign + text.substring(at + 1));
-                    }
-                }
-                if (at < text.length()) {
-                    asModel(e, text.substring(0, at) + text.substring(at + 1));
-                }
-            }
+            Checks.others(text, signs, other -> asModel(e, other));
         }
         bad(e, "box 10 ?", 1, 7);
         bad(e, "box land 9 day 999(pin 99;", 1, 26);

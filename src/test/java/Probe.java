@@ -16,7 +16,12 @@ final class Probe {
     private List<String> answers;
 
     Probe(Edges.Maker maker) {
-        for (int image = -1; image < IMAGES; image++) {
+        this(maker, IMAGES);
+    }
+
+    /** Of the first images alone, or of none. */
+    Probe(Edges.Maker maker, int images) {
+        for (int image = -1; image < images; image++) {
             boolean there = true;
             for (int part = 0; part < PARTS && there; part++) {
                 x = maker.make();

@@ -108,7 +108,9 @@ public final class ProgramEdgeTest {
         }
         bad(e, "put 1 to 1;".repeat(21), 3, 220);
         e.is("the LINES are from 0 on", run("go 2;stop;put 0 to 0;put 0 to 0;").steps(0, 0), 3);
-        e.is("the last of 20 is 19", run("go 19;" + "stop;".repeat(18) + "put 0 to 0;").steps(0, 0), 2);
+        PretendDesk all = run("go 19;read pin to 5;go 3;stop;" + "stop;".repeat(15) + "go 1;");
+        e.is("the last of 20 is 19", all.steps(0, 0), 5);
+        e.is("and is done", run("read pin to 5;" + "put 0 to 0;".repeat(18) + "send 5 to 9;").sent(0, 0, 9), 16);
     }
 
     private static void lines(Edges e) {
@@ -128,6 +130,8 @@ public final class ProgramEdgeTest {
         bad(e, "read land to 5;", 1, 5);
         bad(e, "read 4 to 5;", 1, 5);
         bad(e, "read box 5;", 1, 9);
+        bad(e, "read to 5;", 1, 5);
+        bad(e, "read to box;", 1, 5);
         bad(e, "mix 5 5;", 1, 6);
         bad(e, "put to 5;", 1, 4);
         bad(e, "send 5 to;", 1, 9);
@@ -159,6 +163,27 @@ public final class ProgramEdgeTest {
         }
         bad(e, "put 1 to 6;", 2, 9);
         bad(e, "send 6 to 1;", 2, 5);
+        // At first is each time that it runs.
+        StringBuilder all = new StringBuilder();
+        StringBuilder asked = new StringBuilder();
+        for (int register = 0; register <= 5; register++) {
+            all.append("read pin to " + register + ";send " + register + " to " + register + ";");
+            asked.append("send " + register + " to " + register + ";if " + register + "<1 go " + (2 * register + 2) + ";");
+        }
+        for (int address = 6; address <= 9; address++) {
+            all.append("send 0 to " + address + ";");
+        }
+        PretendDesk x = run(all.toString());
+        e.is("sent", x.sent(0, 1, 0), 16);
+        Checks.program(x, 0, asked + "stop;");
+        e.is("all numbers are 0 again", x.steps(0, 1), 13);
+        for (int address = 0; address <= 9; address++) {
+            e.is("no TRACES again, at " + address, x.sent(0, 1, address), 0);
+        }
+        Checks.program(x, 0, "");
+        for (int address = 0; address <= 9; address++) {
+            e.is("without LINES, at " + address, x.sent(0, 1, address), 0);
+        }
     }
 
     private static void read(Edges e) {
@@ -265,18 +290,7 @@ public final class ProgramEdgeTest {
         String[] texts = {"read pin to 5;mix 4 to 3;\nput 99 to 2;", "send 1 to 9;if 0 < 98 go 20;go 19;stop;", "stop;".repeat(20)};
         String signs = "\0\t\n\r !'()*+,-./012389:;<=>?@AZ[`abdfgiklmnoptuxz{\177\200\240\377";
         for (String text : texts) {
-            for (int at = 0; at <= text.length(); at++) {
-                asModel(e, text.substring(0, at));
-                for (char sign : signs.toCharArray()) {
-                    asModel(e, text.substring(0, at) + sign + text.substring(at));
-                    if (at < text.length()) {
-                        asModel(e, text.substring(0, at) + sign + text.substring(at + 1));
-                    }
-                }
-                if (at < text.length()) {
-                    asModel(e, text.substring(0, at) + text.substring(at + 1));
-                }
-            }
+            Checks.others(text, signs, other -> asModel(e, other));
         }
         bad(e, "go 00001;", 1, 3);
         good(e, "go 0001;", 1);
@@ -424,7 +438,7 @@ public final class ProgramEdgeTest {
     }
 
     private static void endNotOwned(Edges e) {
-        PretendDesk x = Desks.bank("box(pin;)", "box(pin day 1;card land 1;)").make();
+        PretendDesk x = Desks.bank("box(pin;)", "box(pin day 1;pin land 1;pin land 2;)").make();
         Checks.house(x, "shop");
         Checks.own(x, 1, "box;");
         Checks.program(x, 0, "read pass to 0;send 0 to 0;read link to 5;send 5 to 9;read box to 3;");

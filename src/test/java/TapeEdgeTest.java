@@ -16,6 +16,7 @@ public final class TapeEdgeTest {
         e.of("Promise 2", "NONE, and nothing comes, if there would be more than 500.", TapeEdgeTest::notMoreThan500);
         e.of("Term 1", "THE TAPE has at most 500 bytes.", TapeEdgeTest::all500AreRead);
         e.of("Promise 3", "The tape has its first n bytes alone: n.", TapeEdgeTest::firstBytesAlone);
+        e.of("Promise 3", "The tape has its first n bytes alone", TapeEdgeTest::cutOff);
         e.of("Promise 3", "NONE if it has not so many, or n is below 0.", TapeEdgeTest::notSoMany);
         e.of("Promise 8", "Of the latest of these,", TapeEdgeTest::latestOfThese);
         e.of("Promise 8", "what 0: the FAULT, 0 without, 1: its place, NONE without.", TapeEdgeTest::faultAndPlace);
@@ -152,6 +153,17 @@ public final class TapeEdgeTest {
         }
         e.is("500 blanks", x.page(), -1);
         e.fault("500 blanks", x, 1, 500);
+        // The start of a word, a word, a number and a sign as the last bytes of 500.
+        int[] last = {0x20202070, 0x2020706F, 0x2073746F, 0x2020626F, 0x20626F78, 0x20202031, 0x31323334, 0x2020203B, 0x20202028};
+        int[] places = {499, 498, 497, 498, 500, 499, 496, 499, 499};
+        for (int k = 0; k < last.length; k++) {
+            x = new PretendDesk();
+            for (int fed = 0; fed < 25; fed++) {
+                x.feed(0x20202020, 0x20202020, 0x20202020, 0x20202020, fed < 24 ? 0x20202020 : last[k]);
+            }
+            e.is("500 bytes, as the last ones " + Integer.toHexString(last[k]), x.page(), -1);
+            e.fault("500 bytes, as the last ones " + Integer.toHexString(last[k]), x, 1, places[k]);
+        }
     }
 
     // ---- promise 3
@@ -182,6 +194,38 @@ public final class TapeEdgeTest {
         e.is("end(0)", x.end(0), 0);
         e.empty("end(0)", x);
         e.is("end(0) of an empty tape", new PretendDesk().end(0), 0);
+    }
+
+    /** What was cut off is no more read, whatever stood there. */
+    private static void cutOff(Edges e) {
+        String[] texts = {"box 12land 123day 99(pin;box5;)", "read pin to 12;put 99 to 5;stop;", "win now.key", "abcdefghijkl"};
+        for (String text : texts) {
+            for (int n = 0; n <= text.length(); n++) {
+                for (Taker taker : TAKERS) {
+                    PretendDesk x = deskOfTakers();
+                    PretendDesk due = deskOfTakers();
+                    Checks.tell(x, text);
+                    x.end(n);
+                    Checks.tell(due, text.substring(0, n));
+                    String call = taker.call + " of '" + text + "' cut at " + n;
+                    e.is(call, taker.ask.of(x), taker.ask.of(due));
+                    e.is(call + ": fault(0)", x.fault(0), due.fault(0));
+                    e.is(call + ": fault(1)", x.fault(1), due.fault(1));
+                    e.is(call + ": boxes", x.boxes(1, 3, 99), due.boxes(1, 3, 99));
+                    e.is(call + ": sentence", x.sentence(1), due.sentence(1));
+                    Checks.letter(x, "win");
+                    Checks.letter(due, "win");
+                    e.is(call + ": a WORD", x.sentence(0), due.sentence(0));
+                }
+            }
+        }
+        // A taken text is no more there, too.
+        PretendDesk x = deskOfTakers();
+        Checks.letter(x, "box 1234567890;(pin;)(pin;)");
+        x.feed(0x626F7820, 0x31323334, 0x3B000000, 0, 0);
+        x.end(6);
+        e.is("page of 'box 12' where a longer text stood", x.page(), -1);
+        e.fault("page of 'box 12' where a longer text stood", x, 1, 6);
     }
 
     private static void notSoMany(Edges e) {
