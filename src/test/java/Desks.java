@@ -127,7 +127,7 @@ final class Desks {
             x.keep(k % 10, 3 * k, k % 3 == 0);
         }
         for (int k = 0; k < 6; k++) {
-            x.change(0, k % 3, 0, 5 + k % 3, 1 + k);
+            x.change(0, k % 3, 0, k == 5 ? 31 : 5 + k % 3, 1 + k);
         }
         return x;
     }

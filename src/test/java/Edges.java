@@ -116,7 +116,11 @@ final class Edges {
     /** A call that takes a text and is refused: the answer, the FAULT, an empty tape; all else stays. */
     void refusedText(String call, String text, int due, int fault, int place, Maker maker, Ask ask) {
         String told = call + " of '" + text + "'";
-        Ask tellAndAsk = x -> ask.of(Checks.tell(x, text));
+        // The FAULT before is another one, so that a FAULT that stays is found.
+        Ask tellAndAsk = x -> {
+            Checks.letter(x, "a".repeat(17) + "?");
+            return ask.of(Checks.tell(x, text));
+        };
         PretendDesk x = maker.make();
         is(told, tellAndAsk.of(x), due);
         fault(told, x, fault, place);

@@ -600,6 +600,7 @@ public final class ProgramEdgeTest {
     private static void ownerOfNone(Edges e) {
         e.range("owner(address, 0)", 0, 9, 0, Desks.RICH, (x, n) -> Edges.bit(x.owner(n, 0)));
         e.range("owner(address, NONE)", 0, 9, 0, Desks.RICH, (x, n) -> Edges.bit(x.owner(n, -1)));
+        e.range("owner(3, house) of 3", -1, 2, 0, Desks.RICH, (x, n) -> Edges.bit(x.owner(3, n)));
         e.range("owner(4, house) of 3", -1, 2, 0, Desks.RICH, (x, n) -> Edges.bit(x.owner(4, n)));
         e.range("owner(4, house) of 5", -1, 4, 0, Desks.FULL, (x, n) -> Edges.bit(x.owner(4, n)));
         e.range("owner(4, house) of none", -1, -1, 0, Desks.NEW, (x, n) -> Edges.bit(x.owner(4, n)));
