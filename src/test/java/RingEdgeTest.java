@@ -24,7 +24,7 @@ public final class RingEdgeTest {
     }
 
     private static void sketches(Edges e) {
-        e.of("Term 4", "SKETCH of a PAGE of n, 0 .. 16, bits: x is 7;", RingEdgeTest::lowestBits);
+        e.of("Term 4", "SKETCH of a PAGE of n, 0 .. 16, bits: x is 7;", RingEdgeTest::from7);
         e.of("Term 4", "for each BOX of its text, in their order: x becomes (x * 31 + 10 * KIND + COLOUR) of 16 bits;",
                 RingEdgeTest::eachBox);
         e.of("Term 4", "the lowest n of x.", RingEdgeTest::lowestBits);
@@ -229,6 +229,19 @@ public final class RingEdgeTest {
     }
 
     // ---- SKETCHES
+
+    private static void from7(Edges e) {
+        PretendDesk x = Desks.came("box;", "box 1;", "link 9;").make();
+        int[] due = {217, 218, 296};
+        for (int page = 0; page < 3; page++) {
+            e.is("sketch(" + page + ", 16) of one BOX", x.sketch(page, 16), due[page]);
+            e.is("sketch(" + page + ", 15) of one BOX", x.sketch(page, 15), due[page]);
+            e.is("sketch(" + page + ", 1) of one BOX", x.sketch(page, 1), due[page] % 2);
+            e.is("sketch(" + page + ", 0) of one BOX", x.sketch(page, 0), 0);
+            e.is("sketch(" + page + ", 17) of one BOX", x.sketch(page, 17), -1);
+            e.is("sketch(" + page + ", -1) of one BOX", x.sketch(page, -1), -1);
+        }
+    }
 
     private static void lowestBits(Edges e) {
         PretendDesk x = Desks.came("link 9;", "box;", "box(" + "link 9;".repeat(13) + ")").make();
