@@ -5,14 +5,14 @@ import java.util.Map;
 import java.util.function.Consumer;
 
 /**
- * The tests of the edges leave nothing out: each word of the promises 1 to 54, of the terms 1 to 7,
- * of the constants and of an object's use stands in a sentence that has a test.
+ * The tests of the edges leave nothing out: each word of the document, from its first line to its
+ * last, stands in a sentence that has a test. (The face and the heads of the promises: FaceTest.)
  */
 public final class CoverTest {
     private static final List<Consumer<Edges>> TESTS = List.of(TapeEdgeTest::sentences, NameEdgeTest::sentences,
             PageEdgeTest::sentences, FarEdgeTest::sentences, SignEdgeTest::sentences, RoomEdgeTest::sentences,
             MarksEdgeTest::sentences, ForgerEdgeTest::sentences, RingEdgeTest::sentences, ProgramEdgeTest::sentences,
-            LetterEdgeTest::sentences, PictureEdgeTest::sentences, ImageEdgeTest::sentences);
+            LetterEdgeTest::sentences, PictureEdgeTest::sentences, ImageEdgeTest::sentences, WholeEdgeTest::sentences);
 
     public static void main(String[] args) {
         Checks checks = new Checks("CoverTest");
@@ -22,7 +22,8 @@ public final class CoverTest {
                 told.computeIfAbsent(sentence.place(), place -> new ArrayList<>()).add(Doc.plain(sentence.words()));
             }
         }
-        checks.is("places of the document", Doc.places().size(), 2 + 7 + 54);
+        checks.is("places of the document", Doc.places().size(), 4 + 7 + 54);
+        checks.is("nothing else is said: " + Doc.rest(), Doc.rest().isEmpty(), true);
         for (int k = 1; k <= 54; k++) {
             checks.is("Promise " + k + " is told", Doc.places().getOrDefault("Promise " + k, "").isEmpty(), false);
             checks.is("Promise " + k + " has a test", told.containsKey("Promise " + k), true);

@@ -16,17 +16,41 @@ public final class FaceTest {
     private static final Checks CHECKS = new Checks("FaceTest");
 
     public static void main(String[] args) throws IOException {
+        rows();
         face();
         classes();
         words();
         CHECKS.end();
     }
 
-    private static void face() throws IOException {
+    /** Each row of the document's face stands in the file as it stands there, and at the head of its promise. */
+    private static void rows() throws IOException {
+        String text = Files.readString(Path.of("src/main/java/PretendDesk.java"));
+        List<String> face = Doc.face();
+        CHECKS.is("rows of the face", face.size(), 1 + 1 + 54 + 1);
+        CHECKS.is("its first row", face.get(0).equals("public final class PretendDesk {"), true);
+        CHECKS.is("the class", text.contains("\n" + face.get(0) + "\n"), true);
+        CHECKS.is("its constant", text.contains("\n    " + face.get(1) + "\n"), true);
+        List<String> heads = Doc.heads();
+        CHECKS.is("heads of promises", heads.size(), 3 * 54);
+        for (int k = 0; k < 54 && k + 2 < face.size() && heads.size() == 3 * 54; k++) {
+            String row = face.get(k + 2);
+            CHECKS.is("the file has " + row, text.contains("\n    " + row.replace(";", " {") + "\n"), true);
+            CHECKS.is("number of " + row, Integer.parseInt(heads.get(3 * k)), k + 1);
+            CHECKS.is("the promise of " + row, row.equals("public " + heads.get(3 * k + 2) + ";"), true);
+            boolean named = k == 0 || row.contains(" " + heads.get(3 * k + 1) + "(");
+            CHECKS.is("the name of " + row, named, true);
+        }
+    }
+
+    private static void face() {
         List<String> due = new ArrayList<>();
-        Matcher m = Pattern.compile("public (int|boolean) (\\w+)\\((.*)\\);").matcher(Files.readString(Path.of("../shared/DOC.md")));
-        while (m.find()) {
-            due.add(m.group(1) + " " + m.group(2) + "(" + m.group(3).replaceAll(" \\w+(,|$)", "$1") + ")");
+        Pattern head = Pattern.compile("public (int|boolean) (\\w+)\\((.*)\\);");
+        for (String row : Doc.face()) {
+            Matcher m = head.matcher(row);
+            if (m.matches()) {
+                due.add(m.group(1) + " " + m.group(2) + "(" + m.group(3).replaceAll(" \\w+(,|$)", "$1") + ")");
+            }
         }
         List<String> got = new ArrayList<>();
         List<String> names = names();
